@@ -487,7 +487,7 @@ public final class MirrorWires {
         }
 
         /** Answers -1 for a letter that names no kind. */
-        static int kindNamed(char letter) {
+        static int kindNamed(int letter) {
             switch (letter) {
                 case 't': return TURN;
                 case 'i': return IF;
@@ -972,7 +972,7 @@ public final class MirrorWires {
             work[state] = 0;
             line[0] = state;
             int reached = 1;
-            for (int head = 0; head < reached; head++) {
+            for (int head = 0; head < reached && head < MOST_STATES; head++) {
                 int here = line[head];
                 for (int g = 0; g < board.count; g++) {
                     int then = Gate.act(board.gates[g], here);

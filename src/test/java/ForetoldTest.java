@@ -24,7 +24,8 @@ public final class ForetoldTest {
                 "far(1, 2000000001) = BAD", "far(1, -1) = BAD", "far(4, 1) = BAD", "far(-1, 1) = BAD",
                 "ring(0) = 4", "ring(3) = 4", "ring(4) = BAD", "ring(-1) = BAD",
                 "kill(1) = 2", "ring(0) = 1", "ring(1) = 2", "far(1, 3) = 3", "far(0, 3) = 0", "goes(1, 1) = 3",
-                "count(2) = 0", "count(3) = 0");
+                "count(2) = 0", "count(3) = 0",
+                "read '3:t0,t1,t2' = 3", "read '3:i10' = 1", "goes(1, 1) = 3", "goes(0, 1) = 0", "goes(0, 0) = 0");
         Script.on("promises 19 to 21: six wires go round as a whole",
                 "read '6:b543,b432,b321,b210,i10,t0' = 6", "goes(63, 0) = 0", "goes(64, 0) = BAD", "ring(64) = BAD",
                 "far(64, 1) = BAD", "far(63, 0) = 63");
@@ -88,7 +89,8 @@ public final class ForetoldTest {
                 "shows(5) = 3", "shows(7) = 9", "shows(4) = 8", "shows(8) = BAD", "shows(-1) = BAD",
                 "telling(0) = 1", "telling(1) = 3", "heal(2) = 0", "shows(0) = 12", "shows(1) = 7", "shows(5) = 15",
                 "telling(0) = 5", "telling(1) = 4", "telling(2) = BAD", "telling(-1) = BAD",
-                "read '2:t0!,t1!' = 2", "telling(0) = 0", "telling(1) = 0");
+                "read '2:t0!,t1!' = 2", "telling(0) = 0", "telling(1) = 0", "read '2:i10' = 1", "telling(0) = 1",
+                "telling(1) = 1", "read '2:t0' = 1", "telling(0) = 0", "telling(1) = 1");
     }
 
     private static void likely() {
@@ -113,5 +115,9 @@ public final class ForetoldTest {
                 "restore() = 1", "count(0) = 4", "seed(1) = 70", "undo() = 1", "count(2) = 2", "seed(1) = 1",
                 "undo() = 0", "count(2) = 3", "count(3) = 0", "undo() = NONE",
                 "image() = 1", "wires(2) = 4", "restore() = 1", "count(6) = 0", "count(2) = 3");
+        Script.on("promise 34: what may be undone is as it was then, whatever was done and undone since",
+                "flip(0) = 1", "flip(1) = 3", "image() = 1", "undo() = 1", "undo() = 0", "flip(2) = 4", "flip(2) = 0",
+                "restore() = 1", "count(2) = 3", "undo() = 1", "count(2) = 1", "undo() = 0", "count(2) = 0",
+                "undo() = NONE", "restore() = 1", "count(6) = 2");
     }
 }

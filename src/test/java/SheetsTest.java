@@ -81,6 +81,9 @@ public final class SheetsTest {
                 "film(0, 1, 1, 1, -1) = NULL", "film(0, 1, 0, 4, 0) = BAD", "film(0, 1, 0, -1, 0) = BAD",
                 "film(0, 1, 4, 0, 0) = BAD", "film(0, 1, -1, 0, 0) = BAD", "film(0, 2147483647, 0, 0, 0) = BAD",
                 "film(0, 1, 0, 0, 2147483647) = INDEX");
+        Script.on("promise 36: the items ahead of them and behind them stay",
+                "sheet(0, 3, 4) = 4", "item(0, 3, 0, 6) = 1", "item(0, 3, 3, 5) = 1", "film(2, 2, 0, 3, 1) = 2",
+                "came(-2, 6, 0, 3, 0, 1) = 1", "came(-2, 2, 0, 3, 1, 2) = 1", "came(-2, 5, 0, 3, 3, 1) = 1");
         Script.on("promise 36: what is refused writes nothing",
                 "sheet(0, 3, 2) = 2", "film(5, 2, 0, 3, 1) = INDEX", "came(-2, 0, 0, 3, 1, 1) = 1");
     }
@@ -133,6 +136,8 @@ public final class SheetsTest {
                 "came(0, 0, 0, 2, 2147483647, 8) = INDEX", "came(-2, 0, 0, 2, 0, 8) = 1", "came(0, 0, 0, 2, 0, 8) = 1");
         Script.on("promise 35: with 6 wires, 8 states from 56 on",
                 "wires(6) = 3", "sheet(2, 0, 8) = 8", "film(56, 8, 2, 0, 0) = 8", "came(-2, 56, 2, 0, 0, 8) = 1",
-                "came(-2, 57, 2, 0, 0, 8) = BAD", "came(-1, 56, 2, 0, 0, 8) = 0", "came(0, 56, 2, 0, 0, 8) = BAD");
+                "came(-2, 57, 2, 0, 0, 8) = BAD", "sheet(2, 0, 24) = 24", "film(0, 24, 2, 0, 0) = 24",
+                "came(-2, 0, 2, 0, 0, 9) = BAD", "came(-2, 0, 2, 0, 0, 8) = 1", "film(56, 8, 2, 0, 0) = 8",
+                "came(-1, 56, 2, 0, 0, 8) = 0", "came(0, 56, 2, 0, 0, 8) = BAD");
     }
 }
