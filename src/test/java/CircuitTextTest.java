@@ -67,5 +67,9 @@ public final class CircuitTextTest {
                 "read '2=4 1:' = -22", "read ' ' = -21", "read '  x' = -22", "read '3 ' = -22", "read '3:  ' = 0",
                 "read '3: t' = -24", "read '3:t  ' = -25", "read '3:t  3' = -25", "read '3:t0 ,  ' = -28",
                 "read '3:i 1 1' = -26", "read '2=  9:' = -24");
+        Script.on("promise 7: letters of an earlier tape are not read again",
+                "read '3=5:t0,t1' = 2", "read '3=5:t0,' = -27", "read '3=5:' = 0", "read '3=' = -22", "read '3' = -21",
+                "read '3:t0' = 1", "read '3:t' = -23", "read '3:t0!' = 1", "read '3:t1' = 1", "count(4) = 0",
+                "read '3:t0" + " ".repeat(105) + ",' = -130", "read '3:t0" + " ".repeat(106) + "' = 1");
     }
 }
