@@ -11,14 +11,14 @@ public final class MirrorWires {
     private static final int SHEETS = 4, LANES = 4, MOST_ITEMS = 24, MOST_CAME = 8;
     private static final int DEATHS = -1, UPS = -2;
 
-    private final Board now = new Board();
+    private final Foretold foretold = new Foretold();
+    private final Board now = foretold.board;
     private final Past past = new Past();
     private final Board imageNow = new Board();
     private final Past imagePast = new Past();
     private boolean hasImage;
     private final Tape tape = new Tape();
     private final Board draft = new Board();
-    private final Foretold foretold = new Foretold(now);
     private final Sheet[] sheets = new Sheet[SHEETS];
 
     public MirrorWires() {
@@ -808,9 +808,9 @@ public final class MirrorWires {
         }
     }
 
-    /** What would be: looks at the board and changes nothing of it. */
+    /** What would be: looks at its board, on which all else is done, and changes nothing of it. */
     private static final class Foretold {
-        private final Board board;
+        final Board board = new Board();
         private final int[] to = new int[MOST_STATES];
         private final int[] work = new int[MOST_STATES];
         private final int[] line = new int[MOST_STATES];
@@ -818,10 +818,6 @@ public final class MirrorWires {
         int longestRing;
         int stillStates;
         int allRings;
-
-        Foretold(Board board) {
-            this.board = board;
-        }
 
         private void learnRuns() {
             int states = board.states();

@@ -3,7 +3,8 @@ import java.util.Map;
 
 /**
  * Runs of calls written as rows, each on a new object: "flip(2) = 4" calls and compares, "read '3:t0' = 1" types
- * a text and calls circuit(), "type '3:'" only types it. Answers may be written by the name of their constant.
+ * a text and calls circuit(), "type '3:'" only types it, "counts = 3,0,0,0,0,0,0" compares all that count tells.
+ * Answers may be written by the name of their constant.
  */
 final class Script {
     private static final Map<String, Integer> NAMES = Map.of("BAD", -1, "NOT", -2, "FULL", -3, "NONE", -4,
@@ -14,10 +15,18 @@ final class Script {
     private Script() { }
 
     static void on(String title, String... rows) {
-        MirrorWires x = new MirrorWires();
+        rows(title, new MirrorWires(), rows);
+    }
+
+    static void rows(String title, MirrorWires x, String[] rows) {
         for (int r = 0; r < rows.length; r++) {
             row(title, r, x, rows[r]);
         }
+    }
+
+    /** What a row's call answers, whatever is due. */
+    static int told(MirrorWires x, String row) {
+        return (int) called(x, row.substring(0, row.lastIndexOf(" = ")));
     }
 
     static void due(String call, long got, long want) {
@@ -53,6 +62,10 @@ final class Script {
             typed(x, row.substring(6, row.lastIndexOf('\'')));
             return;
         }
+        if (row.startsWith("counts = ")) {
+            counts(title + ", row " + number, x, row.substring(9).split(","));
+            return;
+        }
         int split = row.lastIndexOf(" = ");
         String call = row.substring(0, split);
         String want = row.substring(split + 3);
@@ -61,6 +74,13 @@ final class Script {
                 : called(x, call);
         due(title + ", row " + number + ": " + call, got,
                 NAMES.containsKey(want) ? NAMES.get(want) : Long.parseLong(want));
+    }
+
+    private static void counts(String title, MirrorWires x, String[] want) {
+        due(title + ": things counted", want.length, 7);
+        for (int what = 0; what < want.length; what++) {
+            due(title + ": count(" + what + ")", x.count(what), Long.parseLong(want[what].trim()));
+        }
     }
 
     private static long called(MirrorWires x, String call) {

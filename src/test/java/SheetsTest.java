@@ -47,7 +47,7 @@ public final class SheetsTest {
     private static void copies() {
         String[] six = {"sheet(0, 2, 6) = 6", "item(0, 2, 0, 0) = 1", "item(0, 2, 1, 1) = 1", "item(0, 2, 2, 2) = 1",
                 "item(0, 2, 3, 3) = 1", "item(0, 2, 4, 4) = 1", "item(0, 2, 5, 5) = 1"};
-        Script.on("promise 40: copy", with(six,
+        Script.on("promise 40: copy", Rows.with(six,
                 "sheet(1, 2, 4) = 4", "copy(0, 2, 1, 1, 3) = 3", "came(-2, 2, 1, 2, 1, 3) = 1",
                 "came(-2, 0, 1, 2, 0, 1) = 1", "came(-2, 0, 0, 2, 0, 6) = 1",
                 "copy(0, 0, 1, 0, 0) = 0", "copy(0, 6, 1, 4, 0) = 0", "copy(0, 0, 1, 0, 5) = INDEX",
@@ -57,17 +57,10 @@ public final class SheetsTest {
                 "copy(-1, 0, 1, 0, 1) = BAD", "copy(0, 0, 4, 0, 1) = BAD", "copy(0, 0, -1, 0, 1) = BAD",
                 "copy(0, 0, 2, 0, 1) = NULL", "copy(2, 0, 0, 0, 1) = NULL", "copy(2, 9, 2, 9, 9) = NULL",
                 "sheet(2, 1, 6) = 6", "copy(0, 0, 2, 9, 1) = CAST", "copy(2, 0, 0, 0, -1) = CAST"));
-        Script.on("promise 40: on the same sheet, forwards", with(six,
+        Script.on("promise 40: on the same sheet, forwards", Rows.with(six,
                 "copy(0, 0, 0, 1, 5) = 5", "came(-2, 0, 0, 2, 1, 5) = 1", "came(-2, 0, 0, 2, 0, 1) = 1"));
-        Script.on("promise 40: on the same sheet, backwards", with(six,
+        Script.on("promise 40: on the same sheet, backwards", Rows.with(six,
                 "copy(0, 1, 0, 0, 5) = 5", "came(-2, 1, 0, 2, 0, 5) = 1", "came(-2, 5, 0, 2, 5, 1) = 1"));
-    }
-
-    private static String[] with(String[] first, String... then) {
-        String[] all = new String[first.length + then.length];
-        System.arraycopy(first, 0, all, 0, first.length);
-        System.arraycopy(then, 0, all, first.length, then.length);
-        return all;
     }
 
     private static void films() {
