@@ -117,6 +117,9 @@ public final class ForetoldEdgesTest {
         Script.on("promise 26: of several the first, by i, then j",
                 "read '3:t2,t2,t2' = 3", "pair() = 1", "read '3:t0,t1,t1,t0' = 4", "pair() = 3",
                 "read '3:i10,t1,t0,t1,t1' = 5", "pair() = 103", "read '3:i21,t2,t2,t2' = 4", "pair() = 102");
+        Script.on("promise 26: six wires",
+                "read '6:b543,b210,b543' = 3", "pair() = 2", "read '6:b543,b432,b543,t0' = 4", "pair() = NONE",
+                "read '6:b012,b345,b120,b345' = 4", "pair() = 103");
         Script.on("promise 26: the bits and the gates are as they were", "read '3=1:t2,t2' = 2", "step(1) = 5",
                 "pair() = 1", "counts = 3,2,5,1,0,2,1");
     }

@@ -219,6 +219,9 @@ public final class SheetsEdgesTest {
         Script.on("promise 36: what is refused puts nothing there, not a part of it",
                 "sheet(0, 1, 4) = 4", "film(3, 5, 0, 1, 0) = INDEX", "came(-2, 0, 0, 1, 0, 1) = 1", "film(3, 3, 0, 1, 2) = INDEX",
                 "came(-2, 0, 0, 1, 2, 1) = 1", "came(-2, 0, 0, 1, 3, 1) = 1");
+        Script.on("promise 36: an item each: those ahead of them and behind them stay",
+                "sheet(0, 1, 5) = 5", "item(0, 1, 0, 7) = 1", "item(0, 1, 4, 7) = 1", "film(2, 3, 0, 1, 1) = 3",
+                "came(-2, 7, 0, 1, 0, 1) = 1", "came(-2, 2, 0, 1, 1, 3) = 1", "came(-2, 7, 0, 1, 4, 1) = 1");
         Script.on("promise 36: the highest state to the least lane", "read '6:t0' = 1", "sheet(0, 0, 1) = 1",
                 "film(62, 1, 0, 0, 0) = 1", "came(-2, 62, 0, 0, 0, 1) = 1", "came(-2, 63, 0, 0, 0, 1) = 2");
         Script.on("promise 36: what they go to, whatever the bits are and wherever they stand",

@@ -212,7 +212,13 @@ public final class TextEdgesTest {
                 "read '" + " ".repeat(107) + "3:x' = -129", "read '" + " ".repeat(107) + "3:t' = -130",
                 "read '" + " ".repeat(109) + "x' = -129", "read '" + " ".repeat(110) + "' = -130",
                 "read '" + " ".repeat(108) + "3:' = 0", "read '" + " ".repeat(106) + "3:t2' = 1",
-                "read '" + " ".repeat(106) + "3:t3' = -129");
+                "read '" + " ".repeat(106) + "3:t3' = -129", "read '" + " ".repeat(105) + "3:t0,' = -130",
+                "read '" + " ".repeat(108) + "3=' = -130", "read '" + " ".repeat(107) + "3=1' = -130",
+                "read '" + " ".repeat(109) + "3' = -130", "read '" + " ".repeat(105) + "3:t0!' = 1");
+        Script.on("promise 7: the letters of an earlier, longer tape are behind the end",
+                "read '3=5:t0,t1!' = 2", "read '3=5:t0,t1' = 2", "count(4) = 0", "read '3=5:t0,t' = -28",
+                "read '3=5:t0,' = -27", "read '3=5:t0' = 1", "read '3=5:t' = -25", "read '3=5:' = 0", "read '3=5' = -23",
+                "read '3=' = -22", "read '3' = -21", "read '' = -20", "read '6=63:' = 0", "read '6=6' = -23");
     }
 
     /** Texts with one letter put in, changed or left out at each place, against a reader of another make. */
