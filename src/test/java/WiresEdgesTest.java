@@ -277,7 +277,7 @@ public final class WiresEdgesTest {
         Script.on("promise 8: how many wires are set: none, all",
                 "wires(6) = 3", "count(5) = 0", "read '6=63:' = 0", "count(5) = 6", "flip(5) = 31", "count(5) = 5");
         Script.on("promise 8: what may be undone: 0 to 8",
-                "count(6) = 0", "flip(0) = 1", "count(6) = 1", "drift(6) = 0", "count(6) = 7", "flip(0) = 1",
+                "count(6) = 0", "flip(0) = 1", "count(6) = 1", "drift(6) = " + (1 ^ DriftRow.of(3, 0, 1, 6).bits), "count(6) = 7", "flip(0) = 1",
                 "count(6) = 8", "flip(0) = 0", "count(6) = 8", "undo() = 7", "count(6) = 7");
     }
 }
