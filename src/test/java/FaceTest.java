@@ -50,6 +50,9 @@ public final class FaceTest {
             if (Modifier.isPublic(method.getModifiers())) {
                 methods.put(method.getName(), method.getParameterCount());
                 same(method.getName() + " answers an int", method.getReturnType(), int.class);
+                same(method.getName() + " throws nothing told", method.getExceptionTypes().length, 0);
+                same(method.getName() + " is of the object", Modifier.isStatic(method.getModifiers()), false);
+                numbers(method);
             } else {
                 same(method.getName() + " is private", Modifier.isPrivate(method.getModifiers()), true);
                 same(method.getName() + " is no name of the face", FACE.containsKey(method.getName()), false);
@@ -60,6 +63,9 @@ public final class FaceTest {
         for (Field field : MirrorWires.class.getDeclaredFields()) {
             if (Modifier.isPublic(field.getModifiers())) {
                 constants.add(field.getName());
+                same(field.getName() + " is an int", field.getType(), int.class);
+                same(field.getName() + " is a constant", field.getModifiers(),
+                        Modifier.PUBLIC | Modifier.STATIC | Modifier.FINAL);
             } else {
                 same(field.getName() + " is private", Modifier.isPrivate(field.getModifiers()), true);
             }
@@ -67,6 +73,17 @@ public final class FaceTest {
         same("the constants", constants, CONSTANTS);
         same("final", Modifier.isFinal(MirrorWires.class.getModifiers()), true);
         same("one constructor", MirrorWires.class.getDeclaredConstructors().length, 1);
+        same("it is public", MirrorWires.class.getConstructors().length, 1);
+        same("it takes nothing", MirrorWires.class.getDeclaredConstructors()[0].getParameterCount(), 0);
+    }
+
+    /** All that is told to a call is an int, but for the v of item, a long. */
+    private static void numbers(Method method) {
+        Class<?>[] types = method.getParameterTypes();
+        for (int t = 0; t < types.length; t++) {
+            boolean isItem = method.getName().equals("item") && t == 3;
+            same(method.getName() + ", number " + t, types[t], isItem ? long.class : int.class);
+        }
     }
 
     private static void inside() {
